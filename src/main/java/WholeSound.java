@@ -262,8 +262,8 @@ public final class WholeSound {
     }
 
     public int residual(int frame, int row, int predictor, int i) throws IndexOutOfBoundsException {
-        Row planned = triedRow(frame, row, predictor);
-        if (planned == null || i < 0 || i >= planned.many) {
+        Row planned = plannedRow(frame, row);
+        if (planned == null || !canTry(planned, predictor) || i < 0 || i >= planned.many) {
             throw new IndexOutOfBoundsException();
         }
         int number = planned.numbers[i];
@@ -274,13 +274,18 @@ public final class WholeSound {
     }
 
     public int tried(int frame, int row, int predictor) {
-        Row planned = triedRow(frame, row, predictor);
-        return planned == null ? NONE : planned.bitsBy(predictor, predictors, cutter, effort);
+        Row planned = plannedRow(frame, row);
+        if (planned == null || !canTry(planned, predictor)) {
+            return NONE;
+        }
+        cutter.load(planned, predictors, predictor);
+        return planned.firstBits(predictors.orders[predictor])
+                + (effort == 0 ? cutter.cutNowhere() : cutter.cutForLeast());
     }
 
     public int mean(int frame, int row, int predictor) {
-        Row planned = triedRow(frame, row, predictor);
-        if (planned == null) {
+        Row planned = plannedRow(frame, row);
+        if (planned == null || !canTry(planned, predictor)) {
             return NONE;
         }
         cutter.load(planned, predictors, predictor);
@@ -300,16 +305,8 @@ public final class WholeSound {
         return row == 0 ? plan.firstRow(plan.way) : plan.secondRow(plan.way);
     }
 
-    /** A ROW of a FRAME by its JOIN that the PREDICTOR can be tried on, or null. */
-    private Row triedRow(int frame, int row, int predictor) {
-        if (predictor < 0 || predictor >= PREDICTORS) {
-            return null;
-        }
-        Row planned = plannedRow(frame, row);
-        if (planned == null || predictors.orders[predictor] >= planned.many) {
-            return null;
-        }
-        return planned;
+    private boolean canTry(Row row, int predictor) {
+        return predictor >= 0 && predictor < PREDICTORS && predictors.orders[predictor] < row.many;
     }
 
     // ---- how many bytes it has ----
@@ -999,7 +996,9 @@ public final class WholeSound {
                 }
             }
             how = which;
-            bits = bitsBy(which, predictors, cutter, effort);
+            cutter.load(this, predictors, which);
+            bits = firstBits(predictors.orders[which])
+                    + (effort == 0 ? cutter.cutNowhere() : cutter.cutForLeast());
             if (bits > HOW_BITS + many * width) {
                 how = PLAIN;
                 bits = HOW_BITS + many * width;
@@ -1017,15 +1016,9 @@ public final class WholeSound {
             return true;
         }
 
-        private int firstBits(int order) {
+        /** The bits ahead of the RUNS, by a PREDICTOR of an ORDER. */
+        int firstBits(int order) {
             return HOW_BITS + order * width;
-        }
-
-        /** The bits by a PREDICTOR of an ORDER less than there are numbers; the cutter has the RUNS then. */
-        int bitsBy(int which, Predictors predictors, Cutter cutter, int effort) {
-            cutter.load(this, predictors, which);
-            return firstBits(predictors.orders[which])
-                    + (effort == 0 ? cutter.cutNowhere() : cutter.cutForLeast());
         }
 
         private void keepRuns(Cutter cutter) {
