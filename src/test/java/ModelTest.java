@@ -46,6 +46,7 @@ public final class ModelTest {
         for (long seed = 0; seed < 150 * runs; seed++) {
             new ModelTest(seed).talk();
             new ModelTest(seed).packs();
+            new ModelTest(seed).cuts();
             new ModelTest(seed).spoils();
             new ModelTest(seed).forges();
             new ModelTest(seed + 1000000).forges();
@@ -286,6 +287,35 @@ public final class ModelTest {
             call("store", i);
         }
         call("good");
+        call("same");
+    }
+
+    /** Groups of few kinds, each its own residuals: many cuts have as many bits as others. */
+    private void cuts() {
+        int[] sizes = {0, -1, 1, 2, 3, 5, 10, 20, 60};
+        call("channel", 8);
+        call("allow", 0);
+        call("frame", 64);
+        int groups = draw(3, 24);
+        for (int group = 0; group < groups; group++) {
+            int small = chance(2) ? 0 : draw(0, 8);
+            if (small > 0) {
+                call("fill", 0, 0, small, 0, 0);
+            }
+            if (small < 8) {
+                call("fill", 0, 0, 8 - small, sizes[random.nextInt(sizes.length)], 0);
+            }
+        }
+        for (int frame = 0; frame < 3; frame++) {
+            call("row", frame, 0, 1);
+            int runs = call("row", frame, 0, 2);
+            for (int run = 0; run < runs; run++) {
+                for (int what = 0; what < 3; what++) {
+                    call("run", frame, 0, run, what);
+                }
+            }
+        }
+        call("pack");
         call("same");
     }
 

@@ -232,7 +232,7 @@ public final class PromisesTest {
         due("x 32768", x.fill(0, 3, 1, 32768, 5), NONE);
         due("the SEED stays", x.count(10), 1);
         due("x 32767", x.fill(0, 3, 2, 32767, 0), 2);
-        // 1103527590, whose bits 16 to 30 are 16838; then -1774064363 + ... by the same rule.
+        // 1103515245 + 12345 is 1103527590, whose bits 16 to 30 are 16838.
         due("first", x.sample(0, 0), 16838 - 32767);
         int second = 1103515245 * 1103527590 + 12345;
         due("SEED", x.count(10), second);
@@ -343,7 +343,7 @@ public final class PromisesTest {
         due("shift 5", x.predictor(5, 0, 0, 0, 5), NONE);
         x.channel(16);
         x.fill(0, 1, 16, 0, 3);
-        // 5 still guesses 31 times the third ahead, shifted by 4: 93 * 31 / 16 of 9 * 31 = 279 is 17.
+        // What was refused changed nothing: 5 guesses 31 times the third ahead, 9, shifted by 4: 279 / 16 is 17.
         due("residual", x.residual(0, 0, 5, 6), 18 - 17);
         x.predictor(5, -1, 0, 0, 1);
         // -15 shifted to the right by 1, the sign staying, is -8.
@@ -372,12 +372,6 @@ public final class PromisesTest {
         x.fill(0, 0, 8, 20, 0);
         due("not READY", x.join(0), NONE);
         due("not READY", x.joined(0, 0), NONE);
-        x.fill(1, 2, 8, 2, 1);
-        x.clear();
-        x.channel(8);
-        x.channel(8);
-        x.allow(0);
-        x.fill(0, 0, 8, 20, 0);
         for (int i = 0; i < 4; i++) {
             x.fill(1, 0, 1, 20, 0);
             x.fill(1, 0, 1, 24, 0);
@@ -484,19 +478,32 @@ public final class PromisesTest {
         one.fill(0, 0, 14, 0, 0);
         due("RUNS of equal bits", one.row(0, 0, 2), 1);
         due("bits of equal bits", one.row(0, 0, 1), 4 + 7 + 16);
-        // As many bits and RUNS by 2 + 1 as by 1 + 2: the longer first one is taken. Numbers 0 to 3, 8 to 11 and all of
-        // the middle are 0 or -1, so that the middle costs the same at either side.
-        int[] first = {5, -5, 5, -5, 5, -5, 5, -5};
+        // Eights of -1, 1, 3. Alone: 20 (W 1), 28 (W 2), 36 (W 3). The first two: 12 + 16 * 2 = 44, and 36: 80. The last
+        // two: 12 + 16 * 3 = 60, and 20: 80. All: 84, apart: 84. So 2 + 1: of as many RUNS the longest first one.
         WholeSound two = sound(8, 1);
         two.allow(0);
-        for (int number : first) {
-            two.fill(0, 0, 1, number, 0);
-        }
-        for (int number : first) {
-            two.fill(0, 0, 1, number, 0);
-        }
-        due("RUNS", two.row(0, 0, 2), 1);
-        due("GROUPS", two.run(0, 0, 0, 0), 2);
+        two.fill(0, 0, 8, -1, 0);
+        two.fill(0, 0, 8, 1, 0);
+        two.fill(0, 0, 8, 3, 0);
+        due("RUNS", two.row(0, 0, 2), 2);
+        due("bits", two.row(0, 0, 1), 4 + 80);
+        due("longest first", two.run(0, 0, 0, 0), 2);
+        due("first", two.run(0, 0, 0, 2), 44);
+        due("second", two.run(0, 0, 1, 0), 1);
+        // Eights of 5, 2, seven 0 and -1, 2. The first alone: 12 + 8 * 4 = 44, the others together: 12 + 24 * 3 = 84: 128.
+        // The first two: 12 + 16 * 4 = 76, then 7 + 7 + 2 = 16 by 0, then 12 + 8 * 3 = 36: 128, too. So the fewest RUNS,
+        // though their first one is shorter.
+        WholeSound few = sound(8, 1);
+        few.allow(0);
+        few.fill(0, 0, 8, 5, 0);
+        few.fill(0, 0, 8, 2, 0);
+        few.fill(0, 0, 7, 0, 0);
+        few.fill(0, 0, 1, -1, 0);
+        few.fill(0, 0, 8, 2, 0);
+        due("bits", few.row(0, 0, 1), 4 + 128);
+        due("fewest", few.row(0, 0, 2), 2);
+        due("first", few.run(0, 0, 0, 0), 1);
+        due("second", few.run(0, 0, 1, 0), 3);
     }
 
     private static void residual() {
@@ -629,6 +636,11 @@ public final class PromisesTest {
         due("sized(48)", x.sized(48), 21 + 10);
         due("best()", x.best(), 48);
         due("best() of none", new WholeSound().best(), NONE);
+        // Two FRAMES of 8 would be STILL, of 7 bytes each: but there are none of 8.
+        WholeSound eights = sound(16, 1);
+        eights.fill(0, 0, 8, 30000, 0);
+        eights.fill(0, 0, 8, -30000, 0);
+        due("no FRAME of 8", eights.best(), 16);
         promise = "21";
         WholeSound r = ramp();
         due("without(2)", r.without(2), 33);
@@ -751,7 +763,8 @@ public final class PromisesTest {
         promise = "27";
         due("take(1)", x.take(1), 80);
         due("moved up", x.store(1), 1);
-        due("moved up", x.store(36), new int[] {x.store(36)}[0]);
+        due("moved up", x.store(20), 165);
+        due("moved up", x.store(26), 165);
         due("count(8)", x.count(8), 38);
         due("take(38)", x.take(38), NONE);
         due("take(-1)", x.take(-1), NONE);
@@ -975,6 +988,8 @@ public final class PromisesTest {
         due("STILL", withFrame(8, 1, 9, "1000" + "11111111").at(21), 0);
         due("HOW 10", withFrame(8, 1, 9, "1010" + "11111111").at(21), NONE);
         due("HOW 15", withFrame(8, 1, 9, "1111" + "11111111").at(21), NONE);
+        due("HOW 10, no more", withFrame(8, 1, 9, "1010").at(21), NONE);
+        due("HOW 15, no more", withFrame(8, 1, 9, "1111").at(21), NONE);
         WholeSound w0 = withFrame(8, 1, 9, "0001" + "00000101" + "000" + "1110" + "00000");
         due("W of 0", w0.at(21), 0);
         due("W of 0", w0.heard(0, 8), 5);
@@ -983,7 +998,10 @@ public final class PromisesTest {
         due("two GROUPS of two", withFrame(8, 1, 10, "0001" + "00000101" + "001" + "1111").at(21), 0);
         due("two GROUPS behind one of two",
                 withFrame(8, 1, 10, "0001" + "00000101" + "000" + "1111" + "001" + "1111").at(21), NONE);
+        due("eight RUNS", withFrame(8, 1, 64, "0000" + "0001111".repeat(8)).at(21), 0);
+        due("seven RUNS of eight", withFrame(8, 1, 64, "0000" + "0001111".repeat(7)).at(21), NONE);
         due("ORDER 4 of 4", withFrame(8, 1, 4, "0100" + "00000001".repeat(4)).at(21), NONE);
+        due("ORDER 4 of 4, no more", withFrame(8, 1, 4, "0100").at(21), NONE);
         due("ORDER 4 of 5", withFrame(8, 1, 5, "0100" + "00000001".repeat(4) + "0001111").heard(0, 4), 1);
         // By 2 of 0 and 100: 200 is not of the WIDTH; with a residual of -73 it is 127, with -72 it is not.
         String two = "0010" + "00000000" + "01100100" + "000" + "1110" + "01000";
@@ -991,6 +1009,19 @@ public final class PromisesTest {
         due("128", withFrame(8, 1, 3, two + "10111000").at(21), NONE);
         due("by 16 bits", withFrame(16, 1, 3, "0010" + "0".repeat(16) + "0".repeat(9) + "1100100" + "0001110"
                 + "01000" + "10111000").heard(0, 2), 128);
+        // By 0, W of 9: 127 and 128, -128 and -129 as the first of two.
+        String none = "0000" + "000" + "1110" + "01001";
+        due("127", withFrame(8, 1, 2, none + "001111111" + "000000000").heard(0, 0), 127);
+        due("128", withFrame(8, 1, 2, none + "010000000" + "000000000").at(21), NONE);
+        due("-128", withFrame(8, 1, 2, none + "110000000" + "000000000").heard(0, 0), -128);
+        due("-129", withFrame(8, 1, 2, none + "101111111" + "000000000").at(21), NONE);
+        due("-129 last", withFrame(8, 1, 2, none + "000000000" + "101111111").at(21), NONE);
+        // The same of 16 bits, W of 17.
+        String none16 = "0000" + "000" + "1110" + "10001";
+        due("32767", withFrame(16, 1, 1, none16 + "00" + "1".repeat(15)).heard(0, 0), 32767);
+        due("32768", withFrame(16, 1, 1, none16 + "01" + "0".repeat(15)).at(21), NONE);
+        due("-32768", withFrame(16, 1, 1, none16 + "11" + "0".repeat(15)).heard(0, 0), -32768);
+        due("-32769", withFrame(16, 1, 1, none16 + "10" + "1".repeat(15)).at(21), NONE);
         // W of 31, and ints that wrap: 2 * (2 to the power of 30) - 0 wraps to the lowest int, and no sample is of it.
         String wide = "0001" + "00000000" + "000" + "1110" + "11111";
         due("W of 31", withFrame(8, 1, 2, wide + "1".repeat(31)).heard(0, 1), -1);
@@ -1019,15 +1050,48 @@ public final class PromisesTest {
         setHead(weighed, 10, 4);
         rewrite(weighed, "0101" + "00000001" + "0001111");
         due("a weight of -128", weighed.heard(0, 1), -8);
-        due("number 1 of 1", numbered(1).at(21), NONE);
-        due("number 0 of 1", numbered(0).at(21), 0);
+        due("number 1 of 1", numbered(9, 1).at(21), NONE);
+        due("number 0 of 1", numbered(9, 0).at(21), 0);
+        due("number 1 of 1, whole", numbered(64, 1).at(21), NONE);
+        due("number 1 of 2", numbered(65, 1).at(21), 1);
+        due("number 0 of none", numbered(0, 0).at(21), NONE);
+        // A number of 31 bits is begun, but the STORE ends behind 16 of them, which would be the right CHECK.
+        WholeSound cut = withFrame(8, 1, 2, "0001" + "00000000" + "000" + "1110" + "11111");
+        cut.drop(cut.count(8) - 28);
+        due("cut short", cut.at(21), NONE);
+        inside();
     }
 
-    private static WholeSound numbered(int number) {
-        WholeSound x = withFrame(8, 1, 9, "1000" + "11111111");
+    private static WholeSound numbered(int samples, int number) {
+        WholeSound x = withFrame(8, 1, samples, "1000" + "11111111");
         set(x, 22, number);
         rewrite(x, "1000" + "11111111");
         return x;
+    }
+
+    /** A FRAME inside another: it is GOOD where it is, but looking goes on right behind the outer one. */
+    private static void inside() {
+        WholeSound x = withFrame(8, 1, 64, "1000" + "11111111");
+        setHead(x, 4, 16);
+        int[] bytes = {165, 1, 0b10000000, 0b01010000};
+        int check = check(bytes, 0, 4);
+        StringBuilder bits = new StringBuilder("1001" + "0000");
+        for (int each : new int[] {165, 1, 0b10000000, 0b01010000, check / 256, check % 256}) {
+            bits.append(Integer.toBinaryString(256 + each).substring(1));
+        }
+        bits.append("0".repeat(4 + 16 * 8 - bits.length()));
+        rewrite(x, bits.toString());
+        x.drop(x.count(8) - 42);
+        due("outer", x.at(21), 0);
+        due("inner", x.at(24), 1);
+        due("near(22)", x.near(22), 24);
+        due("good()", x.good(), 1);
+        due("seek(0, 1)", x.seek(0, 1), 21);
+        due("seek(1, 0)", x.seek(1, 0), NONE);
+        due("heard", x.heard(0, 16), 0);
+        x.spoil(40, 1);
+        due("the outer one is spoilt", x.good(), 2);
+        due("heard", x.heard(0, 16), 5);
     }
 
     private static void measures() {
@@ -1049,6 +1113,10 @@ public final class PromisesTest {
         due("upper", y.loud(0, 0), (int) (third >> 32));
         due("lower", y.loud(0, 1), (int) third);
         throwsIt("no SAMPLES", () -> y.loud(1, 0), NoSuchElementException.class);
+        WholeSound single = sound(8, 1);
+        single.fill(0, 0, 1, 3, 0);
+        due("one SAMPLE", single.loud(0, 0), (int) (Double.doubleToLongBits(9.0) >> 32));
+        due("one SAMPLE's ratio", single.ratio(), Float.floatToIntBits(27f));
         throwsIt("what 2", () -> y.loud(0, 2), NoSuchElementException.class);
         throwsIt("what -1", () -> y.loud(0, -1), NoSuchElementException.class);
         throwsIt("channel 2", () -> y.loud(2, 0), NoSuchElementException.class);
