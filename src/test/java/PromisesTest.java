@@ -596,6 +596,12 @@ public final class PromisesTest {
         x.allow(0);
         // 360 / 16 is 22.5; 16 is 2 to the power of 4.
         due("parameter", x.run(0, 0, 0, 1), 5);
+        WholeSound four = sound(8, 1);
+        four.effort(0);
+        four.allow(2);
+        four.fill(0, 1, 16, 0, 4);
+        // A mean of 4 is no less than 2 to the power of 2.
+        due("a power of 2", four.run(0, 0, 0, 1), 3);
         WholeSound low = sound(8, 1);
         low.effort(0);
         low.allow(0);
