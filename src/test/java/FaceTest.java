@@ -5,8 +5,12 @@ import java.lang.reflect.Modifier;
 import java.nio.file.Files;
 import java.nio.file.Path;
 import java.util.Arrays;
+import java.util.Map;
 import java.util.Set;
+import java.util.TreeMap;
 import java.util.TreeSet;
+import java.util.regex.Matcher;
+import java.util.regex.Pattern;
 
 /** The public face is the document's and no more; the source keeps to what LANGUAGE.md lets be seen in a text. */
 public final class FaceTest {
@@ -18,6 +22,8 @@ public final class FaceTest {
         "mean(int,int,int)", "size()", "sized(int)", "without(int)", "best()", "pack()", "store(int)", "spoil(int,int)",
         "drop(int)", "take(int)", "head()", "good()", "seek(int,int)", "holds(int)", "near(int)", "at(int)",
         "heard(int,int)", "same()", "ratio()", "loud(int,int)", "count(int)"};
+    private static final int MOST_DEEP = 8;
+    private static final Pattern CALLED = Pattern.compile("(?<!new )\\b(\\w+)\\(");
     private static int wrong = 0;
 
     private static void must(boolean holds, String what) {
@@ -68,7 +74,9 @@ public final class FaceTest {
     private static void nested() {
         Class<?>[] inside = WholeSound.class.getDeclaredClasses();
         must(inside.length <= 12, "at most twelve classes");
+        noStaticState(WholeSound.class);
         for (Class<?> each : inside) {
+            noStaticState(each);
             int modifiers = each.getModifiers();
             must(Modifier.isStatic(modifiers) && !Modifier.isPublic(modifiers) && !Modifier.isProtected(modifiers),
                     each + " is static, private or package-visible");
@@ -79,6 +87,14 @@ public final class FaceTest {
             must(own <= 20, each + " has at most twenty fields");
             for (Method method : each.getDeclaredMethods()) {
                 must(method.getParameterCount() <= 7, method + " takes at most seven parameters");
+            }
+        }
+    }
+
+    private static void noStaticState(Class<?> each) {
+        for (Field field : each.getDeclaredFields()) {
+            if (Modifier.isStatic(field.getModifiers())) {
+                must(Modifier.isFinal(field.getModifiers()) && field.getType() == int.class, field + " is a constant");
             }
         }
     }
@@ -97,10 +113,16 @@ public final class FaceTest {
         must(Arrays.equals(imports, new String[] {"import java.util.NoSuchElementException;"}), "one import");
         code.lines().filter(line -> line.contains("throw new")).forEach(line ->
                 must(line.trim().matches("throw new (IndexOutOfBounds|NoSuchElement)Exception\\(\\);"), line));
-        methodsAreShort(code);
+        Map<String, String> bodies = methods(code);
+        for (String name : bodies.keySet()) {
+            int deep = depth(bodies, name, 1);
+            must(deep <= MOST_DEEP, name + " opens at most eight calls, none of them again: " + deep);
+        }
     }
 
-    private static void methodsAreShort(String code) {
+    /** The bodies of the methods by their names (of those of one name together); short ones they must be. */
+    private static Map<String, String> methods(String code) {
+        Map<String, String> bodies = new TreeMap<>();
         int start = -1;
         String indent = "";
         String[] lines = code.split("\n");
@@ -112,8 +134,29 @@ public final class FaceTest {
                 indent = line.replaceAll("\\S.*", "");
             } else if (start >= 0 && line.equals(indent + "}")) {
                 must(i - start < 60, "a short method: " + lines[start].trim());
+                Matcher name = CALLED.matcher(lines[start]);
+                must(name.find(), "a method with a name: " + lines[start].trim());
+                String body = String.join("\n", Arrays.copyOfRange(lines, start + 1, i));
+                bodies.merge(name.group(1), body, (one, other) -> one + "\n" + other);
                 start = -1;
             }
         }
+        must(bodies.size() > FACE.length, "more methods are seen than the face has: " + bodies.size());
+        return bodies;
+    }
+
+    /** How many calls stand open at most, this one being the so-many-th; by names alone, so rather too many. */
+    private static int depth(Map<String, String> bodies, String name, int sofar) {
+        int deepest = sofar;
+        if (sofar > MOST_DEEP) {
+            return deepest;
+        }
+        Matcher called = CALLED.matcher(bodies.get(name));
+        while (called.find()) {
+            if (bodies.containsKey(called.group(1))) {
+                deepest = Math.max(deepest, depth(bodies, called.group(1), sofar + 1));
+            }
+        }
+        return deepest;
     }
 }
